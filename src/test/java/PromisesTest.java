@@ -30,6 +30,7 @@ public final class PromisesTest {
         promise15Joins();
         promise16Known();
         promise17Count();
+        withAllRowsFull();
         Due.end();
     }
 
@@ -202,6 +203,14 @@ public final class PromisesTest {
         edge.call(1, 2, 1, 4);
         edge.step(5);
         Due.is("4: just fits", 1, edge.step(1));
+        LiftRows2 part = withLifts(4, 0, 10);
+        part.call(0, 3, 1, 5);
+        part.call(1, 3, 3, 4);
+        part.call(1, 3, 3, 2);
+        part.step(5);
+        Due.is("4: rank 3, those that fit beside one aboard", 1, part.step(1));
+        Due.is("4: the lower number", 1, part.event(1, 2));
+        Due.is("4: not above the capacity", 9, part.told(0, 0));
     }
 
     private static void promise4Directions() {
@@ -581,6 +590,9 @@ public final class PromisesTest {
         x.call(19, 5, 1, 10);
         x.call(19, 5, 1, 11);
         x.call(0, 1, 1, 10);
+        LiftRows2 one = new LiftRows2(4);
+        one.call(2, 1, 1, 1);
+        countIs("one call", one, 4, 0, 1, 0, 0, 1, 1, 4, 0);
         countIs("called", x, 20, 2, 4, 0, 0, 4, 1, 1 << 19 | 1, 0);
         x.step(3);
         countIs("aboard", x, 20, 2, 4, 2, 3, 2, 1, 1 << 19 | 1, 4);
@@ -591,5 +603,38 @@ public final class PromisesTest {
         for (int what : new int[] {-1, 9, 10, Integer.MIN_VALUE, Integer.MAX_VALUE}) {
             Due.is("17: another what " + what, -1, x.count(what));
         }
+    }
+
+    /** Four lifts and 24 calls: every row is used to its last place, and nothing is thrown. */
+    private static void withAllRowsFull() {
+        LiftRows2 x = withLifts(20, 0, 50, 19, 50, 0, 1, 19, 1);
+        for (int i = 0; i < 20; i++) {
+            x.call(i, 19 - i, i % 3 + 1, 2);
+        }
+        for (int i = 0; i < 4; i++) {
+            x.call(0, 19, 1, 1);
+        }
+        x.reserved(0, true);
+        x.stuck(0, true);
+        x.stuck(1, true);
+        Due.is("full: given to none", 20, x.count(6));
+        Due.is("full: those that fit the small ones", 4, x.told(2, 4));
+        Due.is("full: least of four", 19, x.least(2));
+        Due.is("full: none for it", 0, x.freed());
+        x.stuck(0, false);
+        x.stuck(1, false);
+        Due.is("full: freed", 20, x.freed());
+        Due.is("full: all levels wait", (1 << 20) - 1, x.count(7));
+        Due.is("full: more than four", -1, x.least(1));
+        Due.is("full: the reserved one has none", 0, x.told(0, 4));
+        int sum = 0;
+        for (int i = 0; i < 5; i++) {
+            sum += x.step(200);
+        }
+        Due.is("full: all are served", 48, sum);
+        Due.is("full: none waits", 0, x.count(5));
+        Due.is("full: the last event", 1, x.event(47, 3));
+        Due.is("full: the last call", 2, x.known(23, 0));
+        Due.is("full: nothing to go for", 0, x.least(2));
     }
 }
