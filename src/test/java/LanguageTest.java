@@ -97,8 +97,11 @@ public final class LanguageTest {
 
     private static void throwsByHand(String code) {
         Matcher thrown = Pattern.compile("\\bthrow\\b(?:\\s+new\\s+(\\w+)\\((?:\"\")?\\);)?").matcher(code);
+        int besidesTheList = 0;
         while (thrown.find()) {
+            besidesTheList += "ArrayIndexOutOfBoundsException".equals(thrown.group(1)) ? 1 : 0;
             Due.holds("may be thrown: " + thrown.group(), thrown.group(1) != null && THROWN.contains(thrown.group(1)));
         }
+        Due.is("thrown for promise 6 alone", 1, besidesTheList);
     }
 }
