@@ -10,8 +10,19 @@ final class Due {
 
     private static int wrong = 0;
     private static int asked = 0;
+    private static int askedBefore = -1;
+    private static String sentence = "";
 
     private Due() {
+    }
+
+    /** What is asked from here on tests this sentence of the document; the one before must have been tested. */
+    static void sentence(String quoted) {
+        if (asked == askedBefore) {
+            fault("nothing was asked");
+        }
+        askedBefore = asked;
+        sentence = "\"" + quoted + "\": ";
     }
 
     static void is(String what, long want, long got) {
@@ -60,11 +71,12 @@ final class Due {
     private static void fault(String text) {
         wrong++;
         if (wrong <= 40) {
-            System.out.println(text);
+            System.out.println(sentence + text);
         }
     }
 
     static void end() {
+        sentence("");
         System.out.println(asked + " asked, " + wrong + " not as due");
         if (asked == 0 || wrong != 0) {
             System.exit(1);

@@ -2,6 +2,11 @@ import java.util.Random;
 
 /** Promise 14 beside a trying of every order of the stops. */
 public final class LeastTest {
+    private static final int STATE = 0;
+    private static final int FROM = 1;
+    private static final int TO = 2;
+    private static final int SERVED = 2;
+
     public static void main(String[] args) {
         Random random = new Random(14);
         for (int round = 0; round < 3000; round++) {
@@ -26,24 +31,25 @@ public final class LeastTest {
         }
     }
 
+    /** Reads the calls once, so that the trying asks nothing of the object: it is good for 512 calls. */
     private static int allOrders(LiftRows2 x) {
-        int[] state = new int[x.count(2)];
+        int[][] calls = new int[x.count(2)][];
         int open = 0;
-        for (int call = 0; call < state.length; call++) {
-            state[call] = x.known(call, 0);
-            open += state[call] == 2 ? 0 : 1;
+        for (int call = 0; call < calls.length; call++) {
+            calls[call] = new int[] {x.known(call, 0), x.known(call, 2), x.known(call, 3)};
+            open += calls[call][STATE] == SERVED ? 0 : 1;
         }
-        return open > 4 ? -1 : bestFrom(x, x.level(0), state);
+        return open > 4 ? -1 : bestFrom(x.level(0), calls);
     }
 
-    private static int bestFrom(LiftRows2 x, int at, int[] state) {
+    private static int bestFrom(int at, int[][] calls) {
         int best = Integer.MAX_VALUE;
-        for (int call = 0; call < state.length; call++) {
-            if (state[call] < 2) {
-                int stop = x.known(call, state[call] == 0 ? 2 : 3);
-                state[call]++;
-                best = Math.min(best, Math.abs(stop - at) + bestFrom(x, stop, state));
-                state[call]--;
+        for (int[] call : calls) {
+            if (call[STATE] < SERVED) {
+                int stop = call[STATE] == 0 ? call[FROM] : call[TO];
+                call[STATE]++;
+                best = Math.min(best, Math.abs(stop - at) + bestFrom(stop, calls));
+                call[STATE]--;
             }
         }
         return best == Integer.MAX_VALUE ? 0 : best;

@@ -34,14 +34,6 @@ public final class PromisesTest {
         Due.end();
     }
 
-    private static LiftRows2 withLifts(int levels, int... levelsAndCapacities) {
-        LiftRows2 x = new LiftRows2(levels);
-        for (int i = 0; i < levelsAndCapacities.length; i += 2) {
-            x.lift(levelsAndCapacities[i], levelsAndCapacities[i + 1]);
-        }
-        return x;
-    }
-
     private static void promise1NewObject() {
         int[][] levels = {{Integer.MIN_VALUE, 2}, {-1, 2}, {0, 2}, {1, 2}, {2, 2}, {3, 3}, {11, 11}, {19, 19},
             {20, 20}, {21, 20}, {Integer.MAX_VALUE, 20}};
@@ -75,7 +67,7 @@ public final class PromisesTest {
     }
 
     private static void promise3Call() {
-        LiftRows2 x = withLifts(5, 0, 10);
+        LiftRows2 x = Scene.withLifts(5, 0, 10);
         Due.refused("3: from below", ARGUMENT, () -> x.call(-1, 1, 1, 1));
         Due.refused("3: from above", ARGUMENT, () -> x.call(5, 1, 1, 1));
         Due.refused("3: to below", ARGUMENT, () -> x.call(1, -1, 1, 1));
@@ -97,7 +89,7 @@ public final class PromisesTest {
     }
 
     private static void promise3GivenToTheNearest() {
-        LiftRows2 x = withLifts(20, 10, 20, 4, 5, 16, 20, 10, 50);
+        LiftRows2 x = Scene.withLifts(20, 10, 20, 4, 5, 16, 20, 10, 50);
         Due.is("3: nearest above", 2, givenTo(x, 15, 1));
         Due.is("3: nearest below", 1, givenTo(x, 0, 5));
         Due.is("3: nearest has too little", 0, givenTo(x, 0, 6));
@@ -114,7 +106,7 @@ public final class PromisesTest {
         late.call(0, 1, 1, 1);
         late.lift(0, 9);
         Due.is("3: a later lift gets nothing by itself", -1, late.known(0, 1));
-        LiftRows2 far = withLifts(20, 19, 1);
+        LiftRows2 far = Scene.withLifts(20, 19, 1);
         Due.is("3: the longest way", 0, givenTo(far, 0, 1));
     }
 
@@ -123,7 +115,7 @@ public final class PromisesTest {
     }
 
     private static void promise4Step() {
-        LiftRows2 x = withLifts(9, 0, 10);
+        LiftRows2 x = Scene.withLifts(9, 0, 10);
         Due.refused("4: -1", ARGUMENT, () -> x.step(-1));
         Due.refused("4: 201", ARGUMENT, () -> x.step(201));
         Due.refused("4: least", ARGUMENT, () -> x.step(Integer.MIN_VALUE));
@@ -141,7 +133,7 @@ public final class PromisesTest {
         Due.is("4: 200", 0, x.step(200));
         Due.is("4: time", 210, x.count(4));
         Due.is("4: levels gone", 5, x.count(8));
-        LiftRows2 two = withLifts(9, 0, 10, 8, 10);
+        LiftRows2 two = Scene.withLifts(9, 0, 10, 8, 10);
         two.call(0, 1, 1, 1);
         two.call(8, 7, 1, 1);
         Due.is("4: events of both lifts", 4, two.step(20));
@@ -150,7 +142,7 @@ public final class PromisesTest {
     }
 
     private static void promise4Doors() {
-        LiftRows2 x = withLifts(3, 1, 10);
+        LiftRows2 x = Scene.withLifts(3, 1, 10);
         x.call(1, 2, 1, 1);
         x.step(1);
         for (int open = 3; open >= 0; open--) {
@@ -159,7 +151,7 @@ public final class PromisesTest {
             x.step(1);
         }
         Due.is("4: gone once shut", 2, x.level(0));
-        LiftRows2 again = withLifts(3, 1, 10);
+        LiftRows2 again = Scene.withLifts(3, 1, 10);
         again.call(1, 2, 1, 1);
         again.step(2);
         again.call(1, 0, 1, 1);
@@ -169,7 +161,7 @@ public final class PromisesTest {
     }
 
     private static void promise4Boarding() {
-        LiftRows2 x = withLifts(6, 2, 10);
+        LiftRows2 x = Scene.withLifts(6, 2, 10);
         x.call(2, 4, 3, 2);
         x.call(2, 5, 1, 7);
         x.call(2, 3, 2, 9);
@@ -185,25 +177,25 @@ public final class PromisesTest {
         Due.is("4: two get out, by number", 2, x.step(1));
         Due.is("4: first out", 3, x.event(3, 2));
         Due.is("4: then", 4, x.event(4, 2));
-        LiftRows2 swap = withLifts(4, 0, 10);
+        LiftRows2 swap = Scene.withLifts(4, 0, 10);
         swap.call(0, 2, 1, 10);
         swap.call(2, 3, 1, 10);
         Due.is("4: room of those that get out", 3, swap.step(7));
         Due.is("4: served before", 1, swap.event(1, 3));
         Due.is("4: then aboard", 0, swap.event(2, 3));
-        LiftRows2 full = withLifts(4, 0, 10);
+        LiftRows2 full = Scene.withLifts(4, 0, 10);
         full.call(0, 3, 1, 6);
         full.call(1, 2, 1, 5);
         Due.is("4: goes by one that does not fit", 2, full.step(8));
         Due.is("4: at the top", 3, full.level(0));
         Due.is("4: comes back for it", 2, full.step(20));
         Due.is("4: served at last", 2, full.known(1, 0));
-        LiftRows2 edge = withLifts(4, 0, 10);
+        LiftRows2 edge = Scene.withLifts(4, 0, 10);
         edge.call(0, 3, 1, 6);
         edge.call(1, 2, 1, 4);
         edge.step(5);
         Due.is("4: just fits", 1, edge.step(1));
-        LiftRows2 part = withLifts(4, 0, 10);
+        LiftRows2 part = Scene.withLifts(4, 0, 10);
         part.call(0, 3, 1, 5);
         part.call(1, 3, 3, 4);
         part.call(1, 3, 3, 2);
@@ -214,7 +206,7 @@ public final class PromisesTest {
     }
 
     private static void promise4Directions() {
-        LiftRows2 x = withLifts(10, 5, 50);
+        LiftRows2 x = Scene.withLifts(10, 5, 50);
         Due.is("4: none at first", 0, x.told(0, 1));
         x.call(3, 0, 1, 1);
         x.call(9, 8, 1, 1);
@@ -230,7 +222,7 @@ public final class PromisesTest {
         x.call(9, 7, 1, 1);
         x.step(1);
         Due.is("4: goes on down though there is work above", 7, x.level(0));
-        LiftRows2 down = withLifts(10, 5, 50);
+        LiftRows2 down = Scene.withLifts(10, 5, 50);
         down.call(4, 3, 1, 1);
         down.step(1);
         Due.is("4: from none down", -1, down.told(0, 1));
@@ -241,7 +233,7 @@ public final class PromisesTest {
         Due.is("4: keeps it till it does nothing", -1, down.told(0, 1));
         down.step(1);
         Due.is("4: none without work", 0, down.told(0, 1));
-        LiftRows2 turn = withLifts(10, 5, 50);
+        LiftRows2 turn = Scene.withLifts(10, 5, 50);
         turn.call(4, 9, 1, 1);
         turn.step(6);
         Due.is("4: turns up", 1, turn.told(0, 1));
@@ -249,7 +241,7 @@ public final class PromisesTest {
     }
 
     private static void promise5Event() {
-        LiftRows2 x = withLifts(4, 3, 10, 0, 10);
+        LiftRows2 x = Scene.withLifts(4, 3, 10, 0, 10);
         Due.refused("5: none yet", NO_SUCH, () -> x.event(0, 0));
         x.call(1, 2, 1, 1);
         x.step(20);
@@ -265,7 +257,7 @@ public final class PromisesTest {
         Due.refused("5: what -1", ARGUMENT, () -> x.event(0, -1));
         Due.refused("5: what 4", ARGUMENT, () -> x.event(1, 4));
         Due.refused("5: none comes before what", NO_SUCH, () -> x.event(2, 4));
-        LiftRows2 most = withLifts(2, 0, 1);
+        LiftRows2 most = Scene.withLifts(2, 0, 1);
         for (int i = 0; i < 24; i++) {
             most.call(i % 2, 1 - i % 2, 1, 1);
         }
@@ -280,7 +272,7 @@ public final class PromisesTest {
     }
 
     private static void promise6Level() {
-        LiftRows2 x = withLifts(6, 5, 10);
+        LiftRows2 x = Scene.withLifts(6, 5, 10);
         Due.is("6: level", 5, x.level(0));
         for (int lift = 1; lift < 4; lift++) {
             int none = lift;
@@ -307,7 +299,7 @@ public final class PromisesTest {
     }
 
     private static void promise7Told() {
-        LiftRows2 x = withLifts(6, 1, 10);
+        LiftRows2 x = Scene.withLifts(6, 1, 10);
         toldIs("new", x, 0, 0, 0, 0, 0, 0, 0, 0, 0);
         x.call(1, 5, 1, 4);
         x.call(1, 5, 1, 5);
@@ -336,7 +328,7 @@ public final class PromisesTest {
     }
 
     private static void promise8Door() {
-        LiftRows2 x = withLifts(3, 0, 10);
+        LiftRows2 x = Scene.withLifts(3, 0, 10);
         Due.refused("8: shut", STATE, () -> x.door(0, true));
         Due.refused("8: is not kept", STATE, () -> x.door(0, false));
         x.call(0, 1, 1, 1);
@@ -367,7 +359,7 @@ public final class PromisesTest {
     }
 
     private static void promise9Stuck() {
-        LiftRows2 x = withLifts(8, 0, 10, 7, 5, 3, 10);
+        LiftRows2 x = Scene.withLifts(8, 0, 10, 7, 5, 3, 10);
         Due.refused("9: works", STATE, () -> x.stuck(0, false));
         x.call(0, 6, 1, 3);
         x.call(0, 6, 1, 3);
@@ -394,7 +386,7 @@ public final class PromisesTest {
         Due.is("9: another keeps its calls", 1, x.known(2, 1));
         x.step(4);
         Due.is("9: goes on", 1, x.level(0));
-        LiftRows2 other = withLifts(8, 0, 10, 7, 10);
+        LiftRows2 other = Scene.withLifts(8, 0, 10, 7, 10);
         other.call(7, 0, 1, 1);
         other.call(0, 7, 1, 1);
         other.lift(0, 10);
@@ -402,14 +394,14 @@ public final class PromisesTest {
         Due.is("9: only its own calls are given anew", 1, other.known(0, 1));
         Due.is("9: its own is", 2, other.known(1, 1));
         for (int none : NO_LIFT_OF_ONE) {
-            LiftRows2 one = withLifts(3, 0, 10);
+            LiftRows2 one = Scene.withLifts(3, 0, 10);
             Due.refused("9: no lift " + none, NO_SUCH, () -> one.stuck(none, true));
             Due.refused("9: no lift " + none, NO_SUCH, () -> one.stuck(none, false));
         }
     }
 
     private static void promise10Reserved() {
-        LiftRows2 x = withLifts(8, 0, 10, 7, 10);
+        LiftRows2 x = Scene.withLifts(8, 0, 10, 7, 10);
         Due.refused("10: is not", STATE, () -> x.reserved(0, false));
         x.call(0, 2, 1, 3);
         x.call(0, 2, 1, 3);
@@ -425,7 +417,7 @@ public final class PromisesTest {
         x.call(3, 0, 1, 1);
         Due.is("10: gets new ones", 0, x.known(4, 1));
         for (int none : NO_LIFT_OF_ONE) {
-            LiftRows2 one = withLifts(3, 0, 10);
+            LiftRows2 one = Scene.withLifts(3, 0, 10);
             Due.refused("10: no lift " + none, NO_SUCH, () -> one.reserved(none, true));
             Due.refused("10: no lift " + none, NO_SUCH, () -> one.reserved(none, false));
         }
@@ -452,7 +444,7 @@ public final class PromisesTest {
     }
 
     private static void promise12Served() {
-        LiftRows2 x = withLifts(5, 0, 10);
+        LiftRows2 x = Scene.withLifts(5, 0, 10);
         Due.refused("12: no call yet", NO_SUCH, () -> x.served(0));
         x.call(1, 3, 1, 1);
         Due.is("12: waiting", -1, x.served(0));
@@ -470,7 +462,7 @@ public final class PromisesTest {
     }
 
     private static void promise13Waits() {
-        LiftRows2 x = withLifts(9, 0, 10);
+        LiftRows2 x = Scene.withLifts(9, 0, 10);
         Due.refused("13: no call yet", NO_SUCH, () -> x.waits(0));
         x.step(10);
         x.call(4, 3, 1, 1);
@@ -493,7 +485,7 @@ public final class PromisesTest {
     }
 
     private static void promise14Least() {
-        LiftRows2 x = withLifts(20, 10, 5);
+        LiftRows2 x = Scene.withLifts(20, 10, 5);
         Due.is("14: no calls", 0, x.least(0));
         x.call(12, 8, 1, 5);
         Due.is("14: fetched before", 6, x.least(0));
@@ -506,14 +498,14 @@ public final class PromisesTest {
         x.call(10, 11, 1, 5);
         Due.is("14: five", -1, x.least(0));
         Due.is("14: nothing went", 10, x.level(0));
-        LiftRows2 doors = withLifts(20, 3, 5);
+        LiftRows2 doors = Scene.withLifts(20, 3, 5);
         doors.call(3, 7, 1, 5);
         doors.call(4, 2, 1, 5);
         doors.step(1);
         Due.is("14: aboard, capacity and doors are not asked", 8, doors.least(0));
         doors.stuck(0, true);
         Due.is("14: stuck, what waits is not its own", 4, doors.least(0));
-        LiftRows2 others = withLifts(20, 0, 5, 19, 5);
+        LiftRows2 others = Scene.withLifts(20, 0, 5, 19, 5);
         others.call(1, 2, 1, 5);
         others.call(18, 17, 1, 5);
         Due.is("14: its own calls alone", 2, others.least(0));
@@ -526,7 +518,7 @@ public final class PromisesTest {
     }
 
     private static void promise15Joins() {
-        LiftRows2 x = withLifts(5, 0, 10);
+        LiftRows2 x = Scene.withLifts(5, 0, 10);
         x.call(1, 2, 1, 1);
         x.call(1, 2, 3, 9);
         x.call(1, 3, 1, 1);
@@ -560,7 +552,7 @@ public final class PromisesTest {
     }
 
     private static void promise16Known() {
-        LiftRows2 x = withLifts(5, 4, 3, 0, 10);
+        LiftRows2 x = Scene.withLifts(5, 4, 3, 0, 10);
         Due.refused("16: no call yet", NO_SUCH, () -> x.known(0, 0));
         x.call(1, 3, 2, 7);
         x.call(3, 4, 3, 11);
@@ -585,7 +577,7 @@ public final class PromisesTest {
     }
 
     private static void promise17Count() {
-        LiftRows2 x = withLifts(20, 2, 10, 17, 10);
+        LiftRows2 x = Scene.withLifts(20, 2, 10, 17, 10);
         x.call(0, 3, 1, 10);
         x.call(19, 5, 1, 10);
         x.call(19, 5, 1, 11);
@@ -607,7 +599,7 @@ public final class PromisesTest {
 
     /** Four lifts and 24 calls: every row is used to its last place, and nothing is thrown. */
     private static void withAllRowsFull() {
-        LiftRows2 x = withLifts(20, 0, 50, 19, 50, 0, 1, 19, 1);
+        LiftRows2 x = Scene.withLifts(20, 0, 50, 19, 50, 0, 1, 19, 1);
         for (int i = 0; i < 20; i++) {
             x.call(i, 19 - i, i % 3 + 1, 2);
         }
