@@ -16,7 +16,10 @@ final class Due {
     private Due() {
     }
 
-    /** What is asked from here on tests this sentence of the document; the one before must have been tested. */
+    /**
+     * What is asked from here on tests this sentence of the document, or what follows from it. The sentence
+     * before must have been tested: none stands here for show.
+     */
     static void sentence(String quoted) {
         if (asked == askedBefore) {
             fault("nothing was asked");

@@ -358,6 +358,14 @@ public final class PromiseEdgesTest {
         aboard.stuck(0, true);
         Due.is("those aboard stay", 0, aboard.known(0, 1));
         Due.is("those given to none before stay so", -1, givenToNoneBefore());
+        LiftRows2 first = Scene.withLifts(20, 10, 9, 0, 9, 19, 9);
+        first.call(9, 19, 1, 1);
+        first.stuck(0, true);
+        Due.is("the nearest to its first level, not to its last", 1, first.known(0, 1));
+        LiftRows2 equal = Scene.withLifts(20, 10, 9, 15, 9, 5, 9);
+        equal.call(10, 5, 1, 1);
+        equal.stuck(0, true);
+        Due.is("of equal ones the lowest", 1, equal.known(0, 1));
     }
 
     private static int givenToNoneBefore() {
@@ -471,6 +479,12 @@ public final class PromiseEdgesTest {
         x.stuck(2, true);
         Due.is("all are stuck or reserved", 0, x.freed());
         Due.is("one is given to none", 1, x.count(6));
+        LiftRows2 first = new LiftRows2(20);
+        first.call(3, 19, 1, 1);
+        first.lift(19, 9);
+        first.lift(0, 9);
+        first.freed();
+        Due.is("the nearest to its first level, not to its last", 1, first.known(0, 1));
         LiftRows2 done = Scene.withLifts(20, 10, 9);
         done.call(10, 11, 1, 1);
         done.step(1);
@@ -543,6 +557,14 @@ public final class PromiseEdgesTest {
             far.call(i % 2 == 0 ? 19 : 0, i % 2 == 0 ? 0 : 19, 1, 9);
         }
         Due.is("from end to end and back", 38, far.least(0));
+        LiftRows2 stops = Scene.withLifts(20, 0, 9);
+        LiftRows2 down = Scene.withLifts(20, 19, 9);
+        for (int i = 0; i < 4; i++) {
+            stops.call(2 * i + 1, 2 * i + 2, 1, 9);
+            down.call(18 - 2 * i, 17 - 2 * i, 1, 9);
+        }
+        Due.is("eight stops, each at a level of its own", 8, stops.least(0));
+        Due.is("eight stops downward", 8, down.least(0));
     }
 
     private static void leastOfMoreThanFour() {
